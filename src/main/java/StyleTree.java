@@ -189,7 +189,7 @@ public final class StyleTree {
         }
         int among = now.rulesOf(n);
         int best = sheet.strongest(among, p);
-        for (int i = 0; i < k && best != NONE; i++) {
+        for (int i = 0; i < Math.min(k, MOST_RULES) && best != NONE; i++) {
             among &= ~(1 << best);
             best = sheet.strongest(among, p);
         }

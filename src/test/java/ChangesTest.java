@@ -89,6 +89,7 @@ public final class ChangesTest {
         check.due("by rule 3 on", 103, x.wanted(0, 2, 4));
         x.switches(2);
         check.due("by rule 2 on", 102, x.wanted(1, 1, 3));
+        check.due("by rule 0", 100, check.told("Na;Ra:w1;").wanted(0, 0, 0));
         StyleTree tag = check.told("Na;Rb:w1;");
         check.due("a tag is none of the changes", -9, tag.wanted(0, 0, 1));
         StyleTree eight = check.told("Na;Rb:w1;Rb:w1;Rb:w1;Rb:w1;Rb:w1;Rb:w1;Rb:w1;Ra:w8;");

@@ -8,6 +8,7 @@ public final class TextTest {
         clearing();
         reading();
         readingAnew();
+        nothingIsLeftOfOlderTexts();
         refusedPageChangesNothing();
         check.end();
     }
@@ -123,6 +124,31 @@ public final class TextTest {
         check.due("no nodes", 0, x.count(0));
         check.due("no rules", 0, x.count(1));
         check.due("none on", 0, x.count(2));
+    }
+
+    private static void nothingIsLeftOfOlderTexts() {
+        String heavy = "Napqrs;N0dpqrs;RUa.p.q>b.r/c:w1!x2!y3!z4!;RU.s>.r:w9!z9;";
+        String faulty = "Ndp;N0cq;RUd.s/d/d:w5!x5!y5!z5!;R";
+        StyleTree x = new StyleTree();
+        for (int round = 0; round < 3; round++) {
+            check.due("heavy", 4, Checker.read(x, heavy));
+            check.due("faulty", -10 - faulty.length(), Checker.read(x, faulty));
+            x.clear();
+            check.due("light", 3, Checker.read(x, "Nb;Rb:x7;R.p:y8;"));
+            int[][] want = {{0, 1, 1, 2, 0, 1, 1}, {0, 1, 10, 4, 0, 1, 0}};
+            for (int r = 0; r < 2; r++) {
+                for (int what = 0; what < 7; what++) {
+                    check.due("light rule(" + r + ", " + what + ")", want[r][what], x.rule(r, what));
+                }
+            }
+            check.due("light classes", 0, x.node(0, 2));
+            check.due("light w", 0, x.value(0, 0));
+            check.due("light x", 7, x.value(0, 1));
+            check.due("heavy again", 4, Checker.read(x, heavy));
+            check.due("lone", 1, Checker.read(x, "Nc;"));
+            check.due("lone rules", 0, x.node(0, 3));
+            check.due("none on", 0, x.count(2));
+        }
     }
 
     private static void refusedPageChangesNothing() {
