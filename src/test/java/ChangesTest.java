@@ -29,6 +29,11 @@ public final class ChangesTest {
         check.due("of 1", 6, both.change(1, 0, 0));
         check.due("an inner one", 0, both.change(0, 2, 0));
         check.due("the last of another rule", 2, both.change(1, 1, 0));
+        StyleTree twice = check.told("Na;N0b;N1c;R.p:w1;Ra.p:w2;R.q/c:w1;R.q>c:w2;R.r/.r/c:w3;R.r/.s>.s:w4;");
+        check.due("by two rules itself", 1, twice.change(0, 0, 0));
+        check.due("by two rules below", 4, twice.change(0, 1, 0));
+        check.due("by two compounds", 4, twice.change(0, 2, 0));
+        check.due("by an inner one and the last", 1, twice.change(0, 3, 0));
     }
 
     private static void different() {

@@ -39,6 +39,24 @@ public final class DoneTest {
         check.due("refused is not known", 1, x.count(6));
         check.due("1 becomes a", 3, x.tags(1, 0));
         check.due("classes stay", 1, x.node(0, 2));
+        check.due("all on", 15, x.count(2));
+        for (int n = 0; n < 3; n++) {
+            int was = x.node(n, 1);
+            for (int tag = 0; tag < 4; tag++) {
+                check.due("tags(" + n + ", " + tag + ")", tag == was ? -3 : was, x.tags(n, tag));
+                check.due("tag of " + n, tag, x.node(n, 1));
+                was = tag;
+            }
+        }
+        check.due("all on still", 15, x.count(2));
+        StyleTree first = check.told("Na;Ra:w1;");
+        first.tags(0, 1);
+        check.due("0 becomes a again", 1, first.tags(0, 0));
+        check.due("tag of 0", 0, first.node(0, 1));
+        check.due("w of 0", 1, first.value(0, 0));
+        first.undo();
+        first.undo();
+        check.due("0 is a by undo", 0, first.node(0, 1));
     }
 
     private static void switching() {

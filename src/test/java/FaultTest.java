@@ -133,6 +133,11 @@ public final class FaultTest {
         fault(4, "Na;N00a;");
         fault(4, "Na;N10a;");
         fault(1, "N00a;");
+        fault(0, "10");
+        fault(0, "00;");
+        fault(3, "Na;10");
+        fault(2, "Na10");
+        fault(3, "Ra:10;");
         fine(1, "Ra:w0x9;");
     }
 

@@ -8,6 +8,7 @@ public final class ToldTest {
         rules();
         matching();
         rowsOfNodes();
+        nineNodes();
         rulesThatAreOff();
         wrongNumbers();
         check.end();
@@ -86,6 +87,22 @@ public final class ToldTest {
         check.due("p/a/a", 4, y.rule(1, 6));
         check.due("p/b>a", 16, y.rule(2, 6));
         check.due("p>a/a", 4, y.rule(3, 6));
+    }
+
+    private static void nineNodes() {
+        StyleTree x = check.told("Na;N0a;N1a;N2a;N3a;N4a;N5a;N6a;N7a;Ra/a/a:w1;Ra>a>a:w2;Ra>a/a:x3;");
+        for (int n = 0; n < 9; n++) {
+            check.due("below " + n, 511 & ~((2 << n) - 1), x.node(n, 5));
+        }
+        check.due("a/a/a", 508, x.rule(0, 6));
+        check.due("a>a>a", 508, x.rule(1, 6));
+        check.due("a>a/a", 508, x.rule(2, 6));
+        check.due("looked at", 0, x.change(0, 0, 0));
+        check.due("two styles", 2, x.count(3));
+        check.due("record of 8", 2, x.node(8, 4));
+        check.due("ask", 8, x.ask());
+        Checker.read(x, "Nb;N0b;");
+        check.due("nothing of the larger tree is left", 2, x.node(0, 5));
     }
 
     private static void rulesThatAreOff() {
