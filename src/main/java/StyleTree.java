@@ -268,10 +268,14 @@ public final class StyleTree {
     }
 
     public int ask() {
-        gatherAnswers(unseen());
+        int suspects = unseen();
+        if (Integer.bitCount(suspects) <= 1) {
+            return NONE;
+        }
+        gatherAnswers(suspects);
         int best = NONE;
-        // One value alone tells no rule from another, so a place must give two to be asked for.
-        int most = 1;
+        // From 0, not 1: rules that no value tells apart are still several, so a place is due.
+        int most = 0;
         for (int place = 0; place < PROPERTIES * sheet.nodes; place++) {
             int unlike = Integer.bitCount(answers[place]);
             if (unlike > most) {

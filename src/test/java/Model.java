@@ -501,7 +501,10 @@ final class Model {
         List<World> all = possible();
         all.removeIf(Objects::isNull);
         int answer = -9;
-        int most = 1;
+        if (all.size() < 2) {
+            return answer;
+        }
+        int most = 0;
         for (int n = 0; n < world.parents.size(); n++) {
             for (int p = 0; p < 4; p++) {
                 Set<Integer> values = new HashSet<>();

@@ -8,6 +8,8 @@ public final class WhichRuleTest {
         asThingsAreNow();
         asking();
         nothingToAsk();
+        noValueTellsApart();
+        askedByTheFace();
         wrongNumbers();
         check.end();
     }
@@ -93,10 +95,96 @@ public final class WhichRuleTest {
         x.sees(0, 0, 7);
         check.due("none can be", 0, x.unseen());
         check.due("nothing to ask", -9, x.ask());
-        // Two rules can be, but no value tells one from the other.
-        StyleTree alike = check.told("Na;Rb:w1;Rb:w2;");
-        check.due("both can be", 3, alike.unseen());
-        check.due("one value at most", -9, alike.ask());
+        check.due("one rule that matches nothing", -9, check.told("Na;Rb:w1;").ask());
+    }
+
+    /** NONE is for one rule at most: of several that look alike everywhere, the first place. */
+    private static void noValueTellsApart() {
+        StyleTree unmatched = check.told("Na;Rb:w1;Rb:w2;");
+        check.due("both can be", 3, unmatched.unseen());
+        check.due("w of the root", 0, unmatched.ask());
+        StyleTree covered = check.told("Na;N0b;Ra:w1;Ra:w2;Ra:w3;");
+        covered.sees(0, 0, 3);
+        check.due("0 or 1", 3, covered.unseen());
+        check.due("alike, w of the root", 0, covered.ask());
+        covered.switches(2);
+        check.due("2 would be on", 4, covered.unseen());
+        check.due("one is left", -9, covered.ask());
+        covered.forget();
+        covered.switches(1);
+        check.due("w of the root is 0, 2 or 3", 0, covered.ask());
+        StyleTree off = check.told("Na;Rb:w1;Rb:w1;Rc:w1;");
+        off.switches(0);
+        off.switches(1);
+        off.switches(2);
+        check.due("all off, all alike", 0, off.ask());
+        off.tags(0, 2);
+        off.sees(0, 0, 0);
+        check.due("0 or 1 would be on", 3, off.unseen());
+        check.due("still the first place", 0, off.ask());
+        off.sees(0, 1, 4);
+        check.due("none can be", 0, off.unseen());
+        check.due("nothing to ask", -9, off.ask());
+    }
+
+    /** What ask() must be, by trying each rule out with the class's own other calls. */
+    private static int dueToAsk(StyleTree x) {
+        int suspects = x.unseen();
+        if (Integer.bitCount(suspects) < 2) {
+            return -9;
+        }
+        int[] answers = new int[4 * x.count(0)];
+        for (int r = 0; r < x.count(1); r++) {
+            if ((suspects >> r & 1) == 1) {
+                x.switches(r);
+                for (int place = 0; place < answers.length; place++) {
+                    answers[place] |= 1 << x.value(place / 4, place % 4);
+                }
+                x.switches(r);
+            }
+        }
+        int best = -9;
+        for (int place = answers.length - 1; place >= 0; place--) {
+            if (best < 0 || Integer.bitCount(answers[place]) >= Integer.bitCount(answers[best])) {
+                best = place;
+            }
+        }
+        return best;
+    }
+
+    private static void askedByTheFace() {
+        String[] texts = {
+            "", "Na;", "Ra:w1;Ra:w2;", "Na;Ra:w1;", "Na;Rb:w1;Rb:w1;", "Na;Ra:z0;Ra:z0;Ra:z0;",
+            "Nap;N0b;Ra:w1;R.p:w2;Rb:x3;Rb:y4;", "Na;N0b;N1c;Ra:w1;Rb:w2;Rb:x3;Rc:y4;Rc:y5;",
+            "Na;N0b;N0b;Rb:z1;Rb:z2;Rb:z3;Rb:z4;", "Na;N0bq;RUb:y1!;Rb.q:y2;Ra>b:y3;Rc:w1;Rd:w1;",
+        };
+        for (String text : texts) {
+            StyleTree x = check.told(text);
+            int states = 1 << x.count(1);
+            int places = 4 * x.count(0);
+            for (int off = 0; off < states; off++) {
+                compareAsk(text, off, -1, 0);
+                for (int seen = 0; seen < 6 * places; seen++) {
+                    compareAsk(text, off, seen / 6, seen % 6);
+                }
+            }
+        }
+    }
+
+    /** On a new tree each time: behind 512 calls an answer would be free. */
+    private static void compareAsk(String text, int off, int place, int value) {
+        StyleTree x = check.told(text);
+        for (int r = 0; r < x.count(1); r++) {
+            if ((off >> r & 1) == 1) {
+                x.switches(r);
+            }
+        }
+        if (place >= 0) {
+            x.sees(place / 4, place % 4, value);
+        }
+        int asked = x.ask();
+        String state = text + " off " + off + " seen " + place + ": " + value;
+        check.due("ask() of " + state, dueToAsk(x), asked);
     }
 
     private static void wrongNumbers() {
