@@ -11,11 +11,15 @@ final class Checker {
         }
     }
 
-    /** Types a text into a tree and has it read. */
-    static int read(StyleTree tree, String text) {
+    static void type(StyleTree tree, String text) {
         for (int i = 0; i < text.length(); i++) {
             tree.type(text.charAt(i));
         }
+    }
+
+    /** Types a text into a tree and has it read. */
+    static int read(StyleTree tree, String text) {
+        type(tree, text);
         return tree.page();
     }
 
@@ -31,13 +35,17 @@ final class Checker {
         return tree;
     }
 
-    /** Every answer that a question can give, so that two states can be compared. */
+    /**
+     * The answers of all questions about the nodes and rules that there are, so that two states can
+     * be compared. No question about others: an object is good for 512 calls.
+     */
     static String state(StyleTree tree) {
         StringBuilder all = new StringBuilder();
         for (int what = 0; what <= 6; what++) {
             all.append(tree.count(what)).append(' ');
         }
-        for (int n = 0; n < 9; n++) {
+        int nodes = tree.count(0);
+        for (int n = 0; n < nodes; n++) {
             for (int what = 0; what <= 5; what++) {
                 all.append(tree.node(n, what)).append(' ');
             }
@@ -46,7 +54,8 @@ final class Checker {
                 all.append(tree.winner(n, p, 0)).append(' ').append(tree.winner(n, p, 1)).append(' ');
             }
         }
-        for (int r = 0; r < 8; r++) {
+        int rules = tree.count(1);
+        for (int r = 0; r < rules; r++) {
             for (int what = 0; what <= 6; what++) {
                 all.append(tree.rule(r, what)).append(' ');
             }

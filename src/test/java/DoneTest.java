@@ -71,24 +71,31 @@ public final class DoneTest {
         check.due("w of 2 again", 1, x.value(2, 0));
     }
 
-    private static void undoing() {
+    /** A new tree each time, since an object is good for 512 calls. */
+    private static StyleTree afterFirst(int changes) {
         StyleTree x = check.told(TEXT);
-        String[] states = new String[6];
-        states[0] = Checker.state(x);
-        x.toggles(0, 0);
-        states[1] = Checker.state(x);
-        x.tags(1, 2);
-        states[2] = Checker.state(x);
-        x.switches(2);
-        states[3] = Checker.state(x);
-        x.tags(1, 3);
-        states[4] = Checker.state(x);
-        x.toggles(2, 3);
-        for (int left = 4; left >= 0; left--) {
-            check.due("undo", left, x.undo());
-            check.same("undone to " + left, states[left], Checker.state(x));
+        for (int i = 0; i < changes; i++) {
+            switch (i) {
+                case 0 -> x.toggles(0, 0);
+                case 1 -> x.tags(1, 2);
+                case 2 -> x.switches(2);
+                case 3 -> x.tags(1, 3);
+                default -> x.toggles(2, 3);
+            }
         }
-        check.due("none is left", -3, x.undo());
+        return x;
+    }
+
+    private static void undoing() {
+        for (int undone = 1; undone <= 5; undone++) {
+            StyleTree x = afterFirst(5);
+            for (int i = 1; i <= undone; i++) {
+                check.due("undo", 5 - i, x.undo());
+            }
+            String want = Checker.state(afterFirst(5 - undone));
+            check.same(undone + " undone", want, Checker.state(x));
+        }
+        StyleTree x = check.told(TEXT);
         x.switches(1);
         check.due("undo", 0, x.undo());
         check.due("an undo is not undone", -3, x.undo());

@@ -4,6 +4,7 @@ import java.util.Random;
 public final class ModelTest {
     private static final int RUNS = 400;
     private static final int CALLS = 512;
+    private static final int TEXT_CALLS = 122;
     private static final String SIGNS = "NRUabcdpqrswxyz>/.:!;0123456789 e";
 
     private final Random random;
@@ -33,7 +34,8 @@ public final class ModelTest {
 
     private boolean passes() {
         while (calls < CALLS) {
-            boolean fine = random.nextInt(90) == 0 || calls == 0 ? tellText() : oneCall();
+            boolean roomForText = calls + TEXT_CALLS <= CALLS;
+            boolean fine = calls == 0 || random.nextInt(90) == 0 && roomForText ? tellText() : oneCall();
             if (!fine) {
                 return false;
             }

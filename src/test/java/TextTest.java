@@ -130,7 +130,7 @@ public final class TextTest {
         String heavy = "Napqrs;N0dpqrs;RUa.p.q>b.r/c:w1!x2!y3!z4!;RU.s>.r:w9!z9;";
         String faulty = "Ndp;N0cq;RUd.s/d/d:w5!x5!y5!z5!;R";
         StyleTree x = new StyleTree();
-        for (int round = 0; round < 3; round++) {
+        for (int round = 0; round < 2; round++) {
             check.due("heavy", 4, Checker.read(x, heavy));
             check.due("faulty", -10 - faulty.length(), Checker.read(x, faulty));
             x.clear();
