@@ -5,6 +5,7 @@ import java.lang.reflect.Modifier;
 import java.util.Arrays;
 import java.util.HashMap;
 import java.util.Map;
+import java.util.Set;
 
 /** The public face of the document, and nothing beside it. */
 public final class FaceTest {
@@ -28,12 +29,22 @@ public final class FaceTest {
         check.end();
     }
 
-    private static void methods() {
+    /** The document's methods, each with how many numbers it takes. */
+    private static Map<String, Integer> face() {
         Map<String, Integer> face = new HashMap<>();
         for (String method : METHODS) {
             String[] parts = method.split(" ");
             face.put(parts[0], Integer.valueOf(parts[1]));
         }
+        return face;
+    }
+
+    static Set<String> names() {
+        return face().keySet();
+    }
+
+    private static void methods() {
+        Map<String, Integer> face = face();
         int found = 0;
         for (Method method : StyleTree.class.getDeclaredMethods()) {
             Integer parameters = face.get(method.getName());
